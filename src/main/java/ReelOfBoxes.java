@@ -172,20 +172,16 @@ public final class ReelOfBoxes {
             return count - 1;
         }
 
-        private boolean hasSample(int i) {
-            return i >= 0 && i < count;
-        }
-
         int sizeOf(int i) {
-            return hasSample(i) ? sizes[i] : NONE;
+            return i >= 0 && i < count ? sizes[i] : NONE;
         }
 
         int durationOf(int i) {
-            return hasSample(i) ? durations[i] : NONE;
+            return i >= 0 && i < count ? durations[i] : NONE;
         }
 
         long bytesOf(int i) {
-            return hasSample(i) ? contents[i] : 0;
+            return i >= 0 && i < count ? contents[i] : 0;
         }
 
         long timeOf(int i) {
@@ -861,8 +857,8 @@ public final class ReelOfBoxes {
 
     /** Lays the reel out anew: moov with all tables, then mdat with the chunks in turns. */
     private static final class Writer {
-        private static final int TABLE_HEAD = 16;
-        private static final int STSZ_HEAD = 20;
+        private static final int STTS_WIDTH = 8;
+        private static final int STSC_WIDTH = 12;
 
         private final Reel reel;
         private final ByteRow file;
@@ -901,11 +897,15 @@ public final class ReelOfBoxes {
             return Math.min(track.sampleCount(), (chunk + 1) * per);
         }
 
+        private boolean beginsRow(Track track, int i) {
+            return i == 0 || track.durationOf(i) != track.durationOf(i - 1);
+        }
+
         /** How many samples in a row, from one on, have its duration. */
         private int rowFrom(Track track, int i) {
             int count = track.sampleCount();
             int end = i + 1;
-            while (end < count && track.durationOf(end) == track.durationOf(i)) {
+            while (end < count && !beginsRow(track, end)) {
                 end++;
             }
             return end - i;
@@ -915,7 +915,7 @@ public final class ReelOfBoxes {
             int count = track.sampleCount();
             int entries = 0;
             for (int i = 0; i < count; i++) {
-                if (i == 0 || track.durationOf(i) != track.durationOf(i - 1)) {
+                if (beginsRow(track, i)) {
                     entries++;
                 }
             }
@@ -934,24 +934,21 @@ public final class ReelOfBoxes {
             return hasLongPlaces ? 8 : 4;
         }
 
-        private int sttsSize(Track track) {
-            return TABLE_HEAD + 8 * sttsEntries(track);
+        private static int tableSize(int entries, int width) {
+            return HEAD + 8 + entries * width;
         }
 
-        private int stscSize(Track track) {
-            return TABLE_HEAD + 12 * stscEntries(track);
-        }
-
-        private int stszSize(Track track) {
-            return STSZ_HEAD + 4 * track.sampleCount();
-        }
-
-        private int placesSize(Track track) {
-            return TABLE_HEAD + placeWidth() * chunkCount(track);
+        /** As of another table, and the size for all besides. */
+        private static int stszSize(int entries) {
+            return tableSize(entries, 4) + 4;
         }
 
         private int stblSize(Track track) {
-            return HEAD + sttsSize(track) + stscSize(track) + stszSize(track) + placesSize(track);
+            return HEAD
+                    + tableSize(sttsEntries(track), STTS_WIDTH)
+                    + tableSize(stscEntries(track), STSC_WIDTH)
+                    + stszSize(track.sampleCount())
+                    + tableSize(chunkCount(track), placeWidth());
         }
 
         private int moovSize() {
@@ -998,6 +995,12 @@ public final class ReelOfBoxes {
             put(type);
         }
 
+        private void putTableHead(int type, int entries, int width) {
+            putHead(tableSize(entries, width), type);
+            put(0);
+            put(entries);
+        }
+
         private void writeMoov(int size) {
             putHead(size, TYPE_MOOV);
             for (int t = 0; t < MOST_TRACKS; t++) {
@@ -1014,12 +1017,10 @@ public final class ReelOfBoxes {
         }
 
         private void writeStts(Track track) {
-            putHead(sttsSize(track), TYPE_STTS);
-            put(0);
-            put(sttsEntries(track));
+            putTableHead(TYPE_STTS, sttsEntries(track), STTS_WIDTH);
             int count = track.sampleCount();
             for (int i = 0; i < count; i++) {
-                if (i == 0 || track.durationOf(i) != track.durationOf(i - 1)) {
+                if (beginsRow(track, i)) {
                     put(rowFrom(track, i));
                     put(track.durationOf(i));
                 }
@@ -1028,9 +1029,7 @@ public final class ReelOfBoxes {
 
         private void writeStsc(Track track) {
             int entries = stscEntries(track);
-            putHead(stscSize(track), TYPE_STSC);
-            put(0);
-            put(entries);
+            putTableHead(TYPE_STSC, entries, STSC_WIDTH);
             if (entries > 0) {
                 putStscEntry(track, 0);
             }
@@ -1047,7 +1046,7 @@ public final class ReelOfBoxes {
 
         private void writeStsz(Track track) {
             int count = track.sampleCount();
-            putHead(stszSize(track), TYPE_STSZ);
+            putHead(stszSize(count), TYPE_STSZ);
             put(0);
             put(0);
             put(count);
@@ -1058,9 +1057,7 @@ public final class ReelOfBoxes {
 
         private void writePlaces(Track track, int t) {
             int chunks = Math.min(chunkCount(track), MOST_CHUNKS);
-            putHead(placesSize(track), hasLongPlaces ? TYPE_CO64 : TYPE_STCO);
-            put(0);
-            put(chunks);
+            putTableHead(hasLongPlaces ? TYPE_CO64 : TYPE_STCO, chunks, placeWidth());
             for (int chunk = 0; chunk < chunks; chunk++) {
                 file.addNumber(chunkPlaces[t * MOST_CHUNKS + chunk], placeWidth());
             }
