@@ -617,6 +617,29 @@ public final class TermsBoundaryTest extends BoxTest {
         for (int i = 0; i < 8; i++) {
             due("from there on: bytes(0, " + i + ")", x.bytes(0, i), values[i]);
         }
+        for (int size = 8; size <= 16; size++) {
+            dueNoEntryBehind(box("free", new byte[size - 8]));
+        }
+        dueNoEntryBehind(wide("free"));
+    }
+
+    /** The size of a box behind stsc could be taken for the first chunk of one more entry. */
+    private static void dueNoEntryBehind(byte[] other) {
+        long[] places = new long[16];
+        for (int i = 0; i < 16; i++) {
+            places[i] = 23 - i;
+        }
+        byte[] stts = box("stts", n4(0, 1, 16, 1));
+        byte[] stsz = box("stsz", n4(0, 1, 16));
+        byte[] stco = box("stco", n4(0, 16), n4(places));
+        byte[][] stscs = {ONE_STSC, box("stsc", n4(0, 2, 1, 1, 1, 2, 1, 1))};
+        for (byte[] stsc : stscs) {
+            ReelOfBoxes x = loaded(withTables(stts, stsc, other, stsz, stco));
+            due("a box of " + other.length + " behind stsc: read()", x.read(), 0);
+            for (int i = 0; i < 16; i++) {
+                due("a box of " + other.length + " behind stsc: bytes(0, " + i + ")", x.bytes(0, i), 16 - i);
+            }
+        }
     }
 
     private static void theOneOfStsc() {
